@@ -599,23 +599,27 @@ public final class PivotDocks {
                 prices[place] = 0;
             }
             // Each round hangs one DOCK at least, as THE TREE reaches them all.
-            for (int round = 0; round < plan.docks; round++) {
+            int hung = 0;
+            for (int round = 0; round < plan.docks && hung < plan.docks; round++) {
                 for (int way = 0; way < plan.countWays(); way++) {
-                    if (plan.states[way] == IN_TREE) {
-                        hangBy(plan, way);
-                    }
+                    hung += plan.states[way] == IN_TREE && hangsBy(plan, way) ? 1 : 0;
                 }
             }
         }
 
-        private void hangBy(Plan plan, int way) {
+        /** Whether a WAY hangs one more DOCK: one of its places hangs, the other one didn't yet. */
+        private boolean hangsBy(Plan plan, int way) {
             int begin = plan.begins[way];
             int end = plan.ends[way];
             if (depths[begin] != NONE && depths[end] == NONE) {
                 hang(end, begin, way, prices[begin] + plan.costs[way]);
-            } else if (depths[begin] == NONE && depths[end] != NONE) {
-                hang(begin, end, way, prices[end] - plan.costs[way]);
+                return true;
             }
+            if (depths[begin] == NONE && depths[end] != NONE) {
+                hang(begin, end, way, prices[end] - plan.costs[way]);
+                return true;
+            }
+            return false;
         }
 
         private void hang(int dock, int parent, int way, int price) {
@@ -1272,40 +1276,28 @@ public final class PivotDocks {
             }
             tokenAt = at;
             value = 0;
-            if (at >= length) {
-                kind = END;
-            } else if (isLetter(tape[at])) {
-                readWord();
-            } else if (isDigit(tape[at])) {
-                readNumber();
-            } else {
-                kind = tape[at] == ';' ? STOP : NO_TOKEN;
+            kind = at < length ? kindOf(tape[at]) : END;
+            if (kind == STOP || kind == NO_TOKEN) {
                 at++;
+            }
+            while (at < length && (kind == WORD || kind == NUMBER) && kindOf(tape[at]) == kind) {
+                value = kind == WORD ? value << 8 | tape[at] : value * 10 + tape[at] - '0';
+                at++;
+            }
+            int longest = kind == NUMBER ? LONGEST_NUMBER : LONGEST_WORD;
+            if (at - tokenAt > longest) {
+                kind = NO_TOKEN;
             }
         }
 
-        private void readWord() {
-            while (at < length && isLetter(tape[at])) {
-                value = value << 8 | tape[at];
-                at++;
+        private static int kindOf(byte letter) {
+            if (letter >= 'a' && letter <= 'z') {
+                return WORD;
             }
-            kind = at - tokenAt > LONGEST_WORD ? NO_TOKEN : WORD;
-        }
-
-        private void readNumber() {
-            while (at < length && isDigit(tape[at])) {
-                value = value * 10 + tape[at] - '0';
-                at++;
+            if (letter >= '0' && letter <= '9') {
+                return NUMBER;
             }
-            kind = at - tokenAt > LONGEST_NUMBER ? NO_TOKEN : NUMBER;
-        }
-
-        private static boolean isLetter(byte letter) {
-            return letter >= 'a' && letter <= 'z';
-        }
-
-        private static boolean isDigit(byte letter) {
-            return letter >= '0' && letter <= '9';
+            return letter == ';' ? STOP : NO_TOKEN;
         }
     }
 }
