@@ -49,7 +49,6 @@ public final class PivotDocks {
         for (int k = 0; k < KEEPS; k++) {
             keeps[k] = new Plan();
         }
-        yard.plan.tellNothing();
         yard.beginAll();
     }
 

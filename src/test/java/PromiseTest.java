@@ -355,6 +355,9 @@ public final class PromiseTest {
         dueLacks(begun(), 4, 2, 7, 0);
         dueLacks(stepped(2), 1, 2, 4, 0);
         dueLacks(ended(), 0, -2, 3, 0);
+        dueLacks(Check.told("dock a takes 1;"), 1, 0, 0, -2);
+        dueLacks(Check.told("dock a gives 1;"), 0, -2, 1, 0);
+        dueLacks(new PivotDocks(), 0, -2, 0, -2);
         dueLacks(Check.told("dock a;dock b takes 2;dock c gives 4;dock d takes 3;dock e gives 1;"), 5, 1, 5, 2);
         CHECK.due("lack(4)", begun().lack(4), -1);
         CHECK.due("lack(-1)", begun().lack(-1), -1);
@@ -392,6 +395,18 @@ public final class PromiseTest {
         PivotDocks y = Check.told("dock a;dock b;route r a b costs 7 holds 1;");
         CHECK.due("range of an empty one, least", y.range(0, false), 0);
         CHECK.due("range of an empty one, most", y.range(0, true), 999);
+        PivotDocks z = Check.told("dock a gives 1;dock b takes 1;route x a b costs 9 holds 5;route y a b costs 2 holds 5;");
+        z.run(9);
+        CHECK.due("range of one in the tree, bound by way 0", z.range(1, true), 9);
+        CHECK.due("range of one in the tree, bound by 0", z.range(1, false), 0);
+        CHECK.due("range of way 0, empty, least", z.range(0, false), 2);
+        CHECK.due("range of way 0, empty, most", z.range(0, true), 999);
+        // r goes towards the hub: what b takes comes from c, which hangs from b by it.
+        PivotDocks w = Check.told("dock b takes 3;dock c gives 1;route r c b costs 5 holds 9;route s c b costs 7 holds 9;");
+        w.run(9);
+        CHECK.due("it goes towards the hub", w.dock(1, 3), 0);
+        CHECK.due("range of one towards the hub, most", w.range(0, true), 7);
+        CHECK.due("range of one towards the hub, least", w.range(0, false), 0);
     }
 
     private static void trials() {
@@ -512,6 +527,9 @@ public final class PromiseTest {
         CHECK.due("block(1)", x.block(1), 24);
         CHECK.due("it counts", x.step(), 1);
         CHECK.due("the pointer", x.count(3), 2);
+        CHECK.due("undone", x.undo(), 1);
+        CHECK.due("the pointer undone", x.count(3), 0);
+        x.step();
         CHECK.due("block(24) again", x.block(24), 1);
         CHECK.due("acts", x.count(6), 3);
     }
@@ -523,6 +541,13 @@ public final class PromiseTest {
         x.load(0, -1);
         x.block(1);
         CHECK.due("anew()", x.anew(), 3);
+        x.undo();
+        x.toll(0, 999);
+        x.step();
+        CHECK.due("the pointer has moved", x.count(3) != 0, true);
+        x.undo();
+        x.undo();
+        x.anew();
         CHECK.due("pivots", x.count(5), 0);
         CHECK.due("log", x.count(4), 0);
         CHECK.due("pointer", x.count(3), 0);

@@ -79,6 +79,26 @@ public final class ReadingTest {
         Check.feed(x, "dock a;dock b;");
         CHECK.due("the first bytes alone", x.text(7), 1);
         CHECK.due("the tape is empty then", x.count(7), 0);
+        Check.feed(x, "dock abc;");
+        CHECK.due("cut within a word", x.text(6), Check.fault(6, 1));
+        Check.feed(x, "block 24;");
+        CHECK.due("cut within a number", x.text(7), Check.fault(7, 1));
+        Check.feed(x, "block 24;");
+        CHECK.due("cut ahead of the stop", x.text(8), Check.fault(8, 1));
+        x = new PivotDocks();
+        for (int k = 0; k < 29; k++) {
+            Check.feed(x, "                    ");
+        }
+        Check.feed(x, "             block 7");
+        CHECK.due("a full tape that ends in a token", x.text(600), Check.fault(600, 1));
+        for (int k = 0; k < 30; k++) {
+            Check.feed(x, "abcdefghijklmnopqrst");
+        }
+        CHECK.due("a full tape of letters", x.text(600), Check.fault(0, 1));
+        for (int k = 0; k < 30; k++) {
+            Check.feed(x, "12345678901234567890");
+        }
+        CHECK.due("a full tape of digits", x.text(600), Check.fault(0, 1));
     }
 
     private static void whatATextLeavesBehind() {
