@@ -6,15 +6,39 @@ final class Check {
     }
 
     static final long THROWS = Long.MIN_VALUE;
+    private final String document = Document.words();
+    private String sentence = "";
+    private int sentences = 0;
     private int wrong = 0;
     private int asked = 0;
+
+    /** What follows tests these words of the document; they must stand there. */
+    void sentence(String words) {
+        sentence = words;
+        sentences++;
+        if (!document.contains(Document.plain(words))) {
+            wrong++;
+            System.out.println("the document does not say: " + words);
+        }
+    }
 
     void due(String call, long got, long want) {
         asked++;
         if (got != want) {
-            wrong++;
-            System.out.println(call + " answered " + show(got) + ", due is " + show(want));
+            tellWrong(call, show(got), show(want));
         }
+    }
+
+    void same(String call, String got, String want) {
+        asked++;
+        if (!got.equals(want)) {
+            tellWrong(call, got, want);
+        }
+    }
+
+    private void tellWrong(String call, String got, String want) {
+        wrong++;
+        System.out.println((sentence.isEmpty() ? "" : "[" + sentence + "] ") + call + " answered " + got + ", due is " + want);
     }
 
     void due(String call, boolean got, boolean want) {
@@ -82,7 +106,8 @@ final class Check {
     }
 
     void end(String name) {
-        System.out.println(name + ": " + asked + " answers, " + wrong + " wrong");
+        String quoted = sentences == 0 ? "" : sentences + " sentences, ";
+        System.out.println(name + ": " + quoted + asked + " answers, " + wrong + " wrong");
         if (wrong != 0) {
             System.exit(1);
         }
