@@ -1100,11 +1100,12 @@ public final class PivotDocks {
         }
 
         private boolean readLine() {
+            int route = plan.routes;
             boolean told;
             if (isWord(DOCK)) {
                 told = readDock();
             } else if (isWord(ROUTE)) {
-                told = readRoute();
+                told = readRouteName(route) && readEnds(route) && readNumbers(route);
             } else if (isWord(BLOCK)) {
                 told = readBlock();
             } else {
@@ -1139,18 +1140,17 @@ public final class PivotDocks {
             return true;
         }
 
-        private boolean readRoute() {
-            if (plan.routes >= MOST_ROUTES) {
+        private boolean readRouteName(int route) {
+            if (route >= MOST_ROUTES) {
                 return fails(TOO_MANY);
             }
             readToken();
             if (!isNewName()) {
                 return false;
             }
-            int route = plan.routes;
             routeNames[route] = value;
             plan.routes++;
-            return readEnds(route) && readNumbers(route);
+            return true;
         }
 
         private boolean readEnds(int route) {

@@ -19,6 +19,7 @@ public final class AnewEdgesTest {
         units();
         unitsNoWay();
         ranges();
+        rangesBySearch();
         rangeRefused();
         trials();
         trialsNone();
@@ -236,7 +237,7 @@ public final class AnewEdgesTest {
     private static void eachActUndone() {
         CHECK.sentence("all is as ahead of it");
         for (int act = 0; act < 9; act++) {
-            for (PivotDocks x : new PivotDocks[] {Edges.begun(), halfWay(), Edges.muchLacking()}) {
+            for (PivotDocks x : new PivotDocks[] {Edges.begun(), halfWay(), Edges.muchLacking(), pointed()}) {
                 String before = View.of(x);
                 int had = x.count(6);
                 makeAct(x, act);
@@ -247,6 +248,15 @@ public final class AnewEdgesTest {
                 CHECK.same("all as ahead of act " + act, View.of(x), before);
             }
         }
+    }
+
+    /** The pointer is at way 2, as by blocks of one way 1 was the first that was good. */
+    private static PivotDocks pointed() {
+        PivotDocks x = Edges.begun();
+        x.block(1);
+        x.step();
+        CHECK.due("the pointer", x.count(3), 2);
+        return x;
     }
 
     private static PivotDocks halfWay() {
@@ -298,6 +308,14 @@ public final class AnewEdgesTest {
         other.keep(0, false);
         other.keep(0, true);
         CHECK.same("as kept in 1", View.butTape(x), View.butTape(other));
+        PivotDocks y = pointed();
+        y.keep(0, false);
+        CHECK.due("a pivot more", y.step(), 2);
+        y.anew();
+        y.keep(0, true);
+        CHECK.due("the pointer as kept", y.count(3), 2);
+        CHECK.due("the log as kept", y.log(0, 0), 1);
+        CHECK.due("pivots as kept", y.count(5), 1);
     }
 
     private static void keepsForgetActs() {
@@ -344,6 +362,14 @@ public final class AnewEdgesTest {
         CHECK.due("seven routes back", y.unit(7, 0), -7);
         CHECK.due("not along, as all are full", y.unit(0, 7), MIN);
         CHECK.due("0 from one to itself", y.unit(7, 7), 0);
+        String[] routes = {"route p a b costs 5 holds 1;", "route q a b costs 3 holds 1;", "route r a c costs 1 holds 1;", "route s c b costs 1 holds 1;"};
+        int[][] orders = {{0, 1, 2, 3}, {3, 2, 1, 0}, {2, 3, 0, 1}, {1, 0, 3, 2}};
+        for (int[] order : orders) {
+            PivotDocks z = Check.told("dock a;dock b;dock c;" + routes[order[0]] + routes[order[1]] + routes[order[2]] + routes[order[3]]);
+            CHECK.due("the least of three ways", z.unit(0, 1), 2);
+            z.toll(order[0] == 3 ? 0 : order[1] == 3 ? 1 : order[2] == 3 ? 2 : 3, 9);
+            CHECK.due("when c is dear, the lesser of two", z.unit(0, 1), 3);
+        }
     }
 
     private static void unitsNoWay() {
@@ -403,6 +429,37 @@ public final class AnewEdgesTest {
         CHECK.due("at 0", z.range(0, false), 0);
     }
 
+    /** Texts whose trees have routes both towards the HUB and away from it, full ones beside them, and rings below both. */
+    private static final String[] RANGED = {
+        "dock a gives 9;dock b takes 4;dock c takes 5;route p a b costs 3 holds 2;route q a b costs 6 holds 9;route r b c costs 2 holds 9;"
+            + "route s a c costs 7 holds 3;route t a c costs 9 holds 9;",
+        "dock a gives 3;dock b gives 4;dock c takes 20;route p a b costs 3 holds 9;route q b c costs 6 holds 9;route r a c costs 8 holds 2;"
+            + "route s b c costs 2 holds 3;route t a c costs 9 holds 9;",
+        "dock a gives 5;dock b;dock c;dock d takes 5;route p a b costs 1 holds 4;route q b c costs 4 holds 9;route r c d costs 1 holds 9;"
+            + "route s b d costs 5 holds 2;route t a c costs 6 holds 9;route u a d costs 8 holds 9;"};
+
+    private static void rangesBySearch() {
+        CHECK.sentence("all else as it is, so that it would be THE END");
+        for (String text : RANGED) {
+            PivotDocks x = Check.told(text);
+            x.run(99);
+            for (int route = 0; route < x.count(1); route++) {
+                int least = 1000;
+                int most = -1;
+                for (int cost = 0; cost <= 999; cost++) {
+                    PivotDocks y = Check.told(text);
+                    y.run(99);
+                    if (endsAtCost(y, route, cost)) {
+                        least = Math.min(least, cost);
+                        most = cost;
+                    }
+                }
+                CHECK.due("range(" + route + ", false) of " + text, x.range(route, false), least);
+                CHECK.due("range(" + route + ", true) of " + text, x.range(route, true), most);
+            }
+        }
+    }
+
     private static void rangeRefused() {
         CHECK.sentence("-2: it is not THE END; NONE: none such.");
         CHECK.due("not the end", Edges.begun().range(0, false), -2);
@@ -413,6 +470,9 @@ public final class AnewEdgesTest {
             CHECK.due("range(" + far + ", true)", x.range(far, true), -1);
         }
         CHECK.due("the last route", x.range(2, true), 999);
+        CHECK.due("the last route of as many as can be", Edges.most().range(15, true), 999);
+        CHECK.due("the last route of as many as can be", Edges.most().range(15, false), 0);
+        CHECK.due("behind it", Edges.most().range(16, false), -1);
     }
 
     private static void trials() {
@@ -659,6 +719,11 @@ public final class AnewEdgesTest {
         CHECK.due("undone", x.undo(), 3);
         CHECK.due("three again", x.anew(), 3);
         CHECK.due("behind more than the log has", Edges.turned(40).anew(), 40);
+        PivotDocks z = pointed();
+        z.anew();
+        CHECK.due("the pointer is way 0 again", z.count(3), 0);
+        CHECK.due("block stays", z.count(2), 1);
+        CHECK.due("the first one enters again", z.step(), 1);
         PivotDocks y = Edges.ended();
         y.load(2, 1);
         y.load(0, -4);
@@ -785,6 +850,8 @@ public final class AnewEdgesTest {
         PivotDocks y = Check.told("dock a gives 9;dock b takes 9;route p a b costs 1 holds 1;route q a b costs 1 holds 1;");
         y.run(99);
         CHECK.due("full ways", y.count(9), 2);
+        CHECK.due("of as many ways as can be none is full", Edges.most().count(9), 0);
+        CHECK.due("of as many ways as can be", Edges.busy().count(8), 0);
         CHECK.due("routes in the tree", y.count(10), 0);
     }
 

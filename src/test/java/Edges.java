@@ -34,6 +34,18 @@ final class Edges {
         return Check.told(text + more + "block 24;");
     }
 
+    /** As many docks and routes as can be, by blocks of three; a gives what all others take, by two routes to each of them. */
+    static PivotDocks busy() {
+        StringBuilder text = new StringBuilder("dock a gives 60;");
+        for (char d = 'b'; d <= 'h'; d++) {
+            text.append("dock ").append(d).append(" takes 9;");
+        }
+        for (int r = 0; r < 16; r++) {
+            text.append("route r").append((char) ('a' + r)).append(" a ").append((char) ('b' + r % 7)).append(" costs").append(r).append("holds5;");
+        }
+        return Check.told(text + "block 3;");
+    }
+
     /** As many docks and routes as can be; nothing flows. */
     static PivotDocks most() {
         StringBuilder text = new StringBuilder();
@@ -68,9 +80,9 @@ final class Edges {
         return x;
     }
 
-    /** The tender of dock 1, z, is empty and gains -7, as the route by which z hangs has got dear; nothing else is good. */
+    /** The tender of z, way 2, is empty and gains -7, as the route by which z hangs has got dear; nothing else is good. */
     static PivotDocks goodTender() {
-        PivotDocks x = Check.told("dock y takes 99;dock z takes 1;dock x gives 5;route a x z costs 1 holds 99;route b x y costs 2 holds 99;block 24;");
+        PivotDocks x = Check.told("dock z takes 1;dock y takes 99;dock x gives 5;route a x z costs 1 holds 99;route b x y costs 2 holds 99;block 24;");
         x.run(9);
         x.toll(0, 9);
         return x;

@@ -39,6 +39,7 @@ public final class TapeEdgesTest {
         firstBytes();
         howManyDocks();
         afterAText();
+        lessAfterMuch();
         notSoMany();
         faultsLeaveAllElse();
         CHECK.end("TapeEdgesTest");
@@ -547,6 +548,17 @@ public final class TapeEdgesTest {
         CHECK.same("as a new object", View.of(x), View.of(new PivotDocks()));
         CHECK.due("undo()", x.undo(), -1);
         CHECK.due("keep(0, true)", x.keep(0, true), false);
+    }
+
+    private static void lessAfterMuch() {
+        CHECK.sentence("are the TEXT from now on: how many DOCKS; all is BEGUN");
+        String[] texts = {"dock z;", "dock z takes 4;dock y gives 3;route s y z costs 2 holds 3;", "", "block 2;"};
+        for (String text : texts) {
+            PivotDocks x = Edges.busy();
+            x.run(20);
+            Check.tell(x, text);
+            CHECK.same("behind a text with as many ways as can be", View.of(x), View.of(Check.told(text)));
+        }
     }
 
     private static void notSoMany() {

@@ -240,7 +240,7 @@ public final class TreeEdgesTest {
         x.toll(0, 0);
         CHECK.due("an empty tender at gain 0", x.way(4, 6), 0);
         CHECK.due("it is not good", x.good(), 0);
-        CHECK.due("an empty tender below 0", Edges.goodTender().way(3, 6), -7);
+        CHECK.due("an empty tender below 0", Edges.goodTender().way(2, 6), -7);
         CHECK.due("it is good", Edges.goodTender().good(), 1);
     }
 
@@ -525,6 +525,8 @@ public final class TreeEdgesTest {
         CHECK.due("no routes", Check.told("dock a gives 999;dock b takes 999;").proof(), 2 * 9990000L);
         CHECK.due("at the end it is total()", Edges.ended().proof(), 30023);
         CHECK.due("at the end it is total()", Edges.ended().total(), 30023);
+        CHECK.due("tenders whose gain is below 0 do not count", Edges.goodTender().proof(), 10007 + 990000 - 5 * 9998);
+        CHECK.due("as many ways as can be", Edges.most().proof(), 0);
         StringBuilder most = new StringBuilder("dock a;dock b takes 1;");
         for (int r = 0; r < 16; r++) {
             most.append("route r").append((char) ('a' + r)).append(" a b costs 0 holds 999;");
@@ -594,6 +596,13 @@ public final class TreeEdgesTest {
         for (int far : FAR) {
             CHECK.due("ranked(" + far + ")", x.ranked(far), -1);
         }
+        PivotDocks near = Check.told("dock b takes 2;dock a gives 5;route r a b costs 1 holds 9;");
+        near.run(9);
+        CHECK.due("lower by one: ranked(0)", near.ranked(0), 1);
+        CHECK.due("lower by one: ranked(1)", near.ranked(1), 0);
+        near.toll(0, 0);
+        CHECK.due("alike: ranked(0)", near.ranked(0), 0);
+        CHECK.due("alike: ranked(1)", near.ranked(1), 1);
         PivotDocks most = Edges.most();
         CHECK.due("ranked(7) of eight", most.ranked(7), 7);
         CHECK.due("ranked(8) of eight", most.ranked(8), -1);
@@ -609,7 +618,9 @@ public final class TreeEdgesTest {
         CHECK.due("sixteen", Check.told(all.toString()).good(), 16);
         PivotDocks x = Edges.goodTender();
         CHECK.due("a tender, too", x.good(), 1);
-        CHECK.due("it enters", x.enters(), x.count(1) + 1);
+        CHECK.due("it enters", x.enters(), 2);
+        CHECK.due("as many ways as can be, none is good", Edges.most().good(), 0);
+        CHECK.due("as many ways as can be, routes are good", Edges.busy().good(), 16);
     }
 
     private static void entersAtTheEnd() {
@@ -780,6 +791,13 @@ public final class TreeEdgesTest {
         }
     }
 
+    private static void dueTurned(PivotDocks x, int n) {
+        for (int ago = 0; ago < Math.min(n, 16); ago++) {
+            CHECK.due("of " + n + ", log(" + ago + ", 0)", x.log(ago, 0), Edges.turnedWay(n - 1 - ago));
+            CHECK.due("of " + n + ", log(" + ago + ", 2)", x.log(ago, 2), Edges.turnedLoad(n - 1 - ago));
+        }
+    }
+
     private static void logOf16() {
         CHECK.sentence("THE LOG has the latest 16 PIVOTS since all was BEGUN.");
         int[] counts = {15, 16, 17, 18, 31, 32, 33, 40};
@@ -787,17 +805,20 @@ public final class TreeEdgesTest {
             PivotDocks x = Edges.turned(n);
             CHECK.due("pivots", x.count(5), n);
             CHECK.due("in the log", x.count(4), Math.min(n, 16));
-            for (int ago = 0; ago < Math.min(n, 16); ago++) {
-                int entered = Edges.turnedWay(n - 1 - ago);
-                CHECK.due("of " + n + ", log(" + ago + ", 0)", x.log(ago, 0), entered);
-                CHECK.due("of " + n + ", log(" + ago + ", 2)", x.log(ago, 2), Edges.turnedLoad(n - 1 - ago));
-            }
+            dueTurned(x, n);
             CHECK.dueThrow("behind the oldest", () -> x.log(Math.min(n, 16), 0));
             CHECK.due("anew()", x.anew(), n);
             CHECK.dueThrow("begun anew it is empty", () -> x.log(0, 0));
             CHECK.due("begun anew it is empty", x.count(4), 0);
+            x.step();
             x.undo();
-            CHECK.due("undone, the oldest one is back", x.log(Math.min(n, 16) - 1, 0), Edges.turnedWay(n - Math.min(n, 16)));
+            x.undo();
+            dueTurned(x, n);
+            x.keep(0, false);
+            x.anew();
+            x.run(3);
+            x.keep(0, true);
+            dueTurned(x, n);
         }
     }
 
@@ -839,6 +860,7 @@ public final class TreeEdgesTest {
             most.append("dock ").append(d).append(d % 2 == 0 ? " gives 999;" : " takes 999;");
         }
         CHECK.due("the most", Check.told(most.toString()).total(), 79920000);
+        CHECK.due("as many ways as can be", Edges.busy().total(), 10000L * (60 + 63));
         CHECK.due("much lacks", Edges.muchLacking().total(), 10000L * 1993 + 2 * 5);
     }
 
@@ -858,5 +880,15 @@ public final class TreeEdgesTest {
         CHECK.due("the last dock alone", Check.told("dock a;dock b;dock c;dock d;dock e;dock f;dock g;dock h takes 1;").lack(1), 7);
         CHECK.due("the last dock alone", Check.told("dock a;dock b;dock c;dock d;dock e;dock f;dock g;dock h gives 1;").lack(3), 7);
         CHECK.due("at the end", Edges.ended().lack(1), -2);
+        int[] busy = {63, 1, 60, 0};
+        int[] most = {0, -2, 0, -2};
+        for (int what = 0; what < 4; what++) {
+            CHECK.due("as many ways as can be, lack(" + what + ")", Edges.busy().lack(what), busy[what]);
+            CHECK.due("as many ways as can be, lack(" + what + ")", Edges.most().lack(what), most[what]);
+            PivotDocks x = Edges.busy();
+            x.run(9);
+            Check.tell(x, "dock z;");
+            CHECK.due("docks of an earlier text do not count, lack(" + what + ")", x.lack(what), most[what]);
+        }
     }
 }
