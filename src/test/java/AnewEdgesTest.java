@@ -17,6 +17,7 @@ public final class AnewEdgesTest {
         keepsHoldAll();
         keepsForgetActs();
         units();
+        unitsByRoutes();
         unitsNoWay();
         ranges();
         rangesBySearch();
@@ -55,7 +56,7 @@ public final class AnewEdgesTest {
     // ---- told anew
 
     private static void giftMovesFlows() {
-        CHECK.sentence("FLOWS of all WAYS from that DOCK up to the HUB are more by it, if they are gone along, else less.");
+        CHECK.sentence("A GIFT told anew, by so much more (or less, below 0): FLOWS of all WAYS from that DOCK up to the HUB are more by it, if they are gone along, else less.");
         PivotDocks x = Edges.ended();
         CHECK.due("load(2, -3)", x.load(2, -3), 2);
         dueFlows(x, 3, 3, 4, 0, 0, 0);
@@ -370,6 +371,18 @@ public final class AnewEdgesTest {
             z.toll(order[0] == 3 ? 0 : order[1] == 3 ? 1 : order[2] == 3 ? 2 : 3, 9);
             CHECK.due("when c is dear, the lesser of two", z.unit(0, 1), 3);
         }
+    }
+
+    private static void unitsByRoutes() {
+        CHECK.sentence("At THE END the least that one unit more from a DOCK to another one costs, by ROUTES");
+        PivotDocks x = Check.told("dock a gives 9;dock b takes 9;route r a b costs 1 holds 4;route s a b costs 5 holds 4;");
+        CHECK.due("not the end", x.unit(0, 1), MIN);
+        x.run(9);
+        CHECK.due("both are full, tenders do not count", x.unit(0, 1), MIN);
+        CHECK.due("back, the dearer one saves more", x.unit(1, 0), -5);
+        x.toll(1, 999);
+        CHECK.due("the end still", x.count(8), 1);
+        CHECK.due("back, as much less as it costs now", x.unit(1, 0), -999);
     }
 
     private static void unitsNoWay() {

@@ -6,17 +6,15 @@ final class Check {
     }
 
     static final long THROWS = Long.MIN_VALUE;
-    private final String document = Document.words();
     private String sentence = "";
-    private int sentences = 0;
+    private final java.util.Set<String> sentences = new java.util.HashSet<>();
     private int wrong = 0;
     private int asked = 0;
 
     /** What follows tests these words of the document; they must stand there. */
     void sentence(String words) {
         sentence = words;
-        sentences++;
-        if (!document.contains(Document.plain(words))) {
+        if (sentences.add(words) && !Document.says(words)) {
             wrong++;
             System.out.println("the document does not say: " + words);
         }
@@ -106,7 +104,7 @@ final class Check {
     }
 
     void end(String name) {
-        String quoted = sentences == 0 ? "" : sentences + " sentences, ";
+        String quoted = sentences.isEmpty() ? "" : sentences.size() + " sentences, ";
         System.out.println(name + ": " + quoted + asked + " answers, " + wrong + " wrong");
         if (wrong != 0) {
             System.exit(1);

@@ -71,6 +71,7 @@ public final class InvariantTest {
     }
 
     private void eachWay() {
+        CHECK.sentence("Each WAY has a FLOW, from 0 to what it holds. THE TREE: as many WAYS as DOCKS");
         int inTree = 0;
         for (int way = 0; way < routes + docks; way++) {
             int holds = way < routes ? x.way(way, 3) : 1000000;
@@ -89,6 +90,7 @@ public final class InvariantTest {
 
     /** What flows to a dock and what it gives flows from it; its way up leads one nearer to the hub. */
     private void eachDock() {
+        CHECK.sentence("by which all DOCKS hang from the HUB");
         int[] left = new int[docks];
         int[][] ends = new int[routes + docks][2];
         for (int way = 0; way < routes + docks; way++) {

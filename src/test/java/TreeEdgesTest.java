@@ -18,6 +18,7 @@ public final class TreeEdgesTest {
         goodOnes();
         theEnd();
         ringOrder();
+        ringGoneThrough();
         apexes();
         rooms();
         loads();
@@ -50,6 +51,7 @@ public final class TreeEdgesTest {
         logOthers();
         logOf16();
         bills();
+        costs();
         totals();
         lackNone();
         CHECK.end("TreeEdgesTest");
@@ -268,6 +270,25 @@ public final class TreeEdgesTest {
         dueRing(x, 11, 10, 0, 11);
         // A FULL one is gone through from its end to its beginning.
         dueRing(Edges.ended(), 1, 2, 1, 0);
+    }
+
+    private static void ringGoneThrough() {
+        CHECK.sentence("RING of a WAY that isn't in THE TREE: it is gone through from its beginning to its end, if it is EMPTY, else from its end to its beginning; where it is gone into is A, where one comes out is B.");
+        // Way 0 turns over between empty and full; b hangs from a by way 1.
+        PivotDocks x = Check.told(PAIR + "route r a b costs 1 holds 4;route s a b costs 2 holds 20;block 1;");
+        x.run(9);
+        CHECK.due("it is full", x.way(0, 5), 2);
+        dueRing(x, 0, 1, 0);
+        CHECK.due("B is the apex", x.closes(0, 2), 0);
+        x.toll(0, 9);
+        x.step();
+        CHECK.due("it is empty", x.way(0, 5), 1);
+        dueRing(x, 0, 0, 1);
+        CHECK.due("A is the apex", x.closes(0, 2), 0);
+        // Tenders that aren't in the tree: one from the hub, one to the hub.
+        PivotDocks y = Edges.ended();
+        dueRing(y, 5, 5, 2, 3);
+        dueRing(y, 4, 3, 0, 4);
     }
 
     private static void apexes() {
@@ -849,6 +870,27 @@ public final class TreeEdgesTest {
         CHECK.due("far out, and it would wrap to a small one", y.bill(1 << 30, 0), MIN);
         CHECK.due("f of MAX", y.bill(MAX, 0), MIN);
         CHECK.due("f of MIN", y.bill(MIN, 0), MIN);
+    }
+
+    private static void costs() {
+        CHECK.sentence("COST: of all ROUTES FLOW times what they cost.");
+        CHECK.due("no routes", Check.told("dock a gives 5;dock b takes 5;").cost(), 0);
+        CHECK.due("nothing flows", Edges.begun().cost(), 0);
+        PivotDocks free = pair(9, 9, 0, 9);
+        free.run(9);
+        CHECK.due("for nothing", free.cost(), 0);
+        CHECK.due("full ones count", Edges.ended().cost(), 2 * 3 + 3 * 3 + 8);
+        StringBuilder text = new StringBuilder();
+        for (char d = 'a'; d <= 'h'; d++) {
+            text.append("dock ").append(d).append(d == 'a' ? " gives 999;" : d == 'h' ? " takes 999;" : ";");
+        }
+        for (char d = 'a'; d < 'h'; d++) {
+            text.append("route r").append(d).append(' ').append(d).append(' ').append((char) (d + 1)).append(" costs 999 holds 999;");
+        }
+        PivotDocks dear = Check.told(text.toString());
+        dear.run(99);
+        CHECK.due("seven routes, as dear and as full as can be", dear.cost(), 7 * 999 * 999);
+        CHECK.due("nothing lacks", dear.total(), 7 * 999 * 999);
     }
 
     private static void totals() {
