@@ -22,6 +22,7 @@ public final class FaceTest {
         members();
         nested();
         source();
+        objectsMade();
         CHECK.end("FaceTest");
     }
 
@@ -89,8 +90,26 @@ public final class FaceTest {
         }
     }
 
+    private static String read() throws IOException {
+        return new String(Files.readAllBytes(Paths.get("src/main/java/PivotDocks.java")), StandardCharsets.ISO_8859_1);
+    }
+
+    /** All rows are made with the object, so that a long run of calls makes nothing but the exceptions it throws. */
+    private static void objectsMade() throws IOException {
+        String field = " +(private )?(final )?[A-Za-z]+(\\[\\])? \\w+ = new [^;]+;";
+        String inConstructor = " +(keeps|plans)\\[k\\] = new Plan\\(\\);";
+        String thrown = " +(default: )?throw new NoSuchElementException\\(\"[a-z ]+\"\\);";
+        for (String line : read().split("\n")) {
+            boolean told = line.matches(" *(//|/\\*\\*).*");
+            if (line.contains("new ") && !told) {
+                CHECK.due("made: " + line.trim(), line.matches(field) || line.matches(inConstructor) || line.matches(thrown), true);
+            }
+            CHECK.due("made within a call: " + line.trim(), line.matches(" {12,}.*" + field), false);
+        }
+    }
+
     private static void source() throws IOException {
-        String text = new String(Files.readAllBytes(Paths.get("src/main/java/PivotDocks.java")), StandardCharsets.ISO_8859_1);
+        String text = read();
         String[] never = {"->", "::", "Exact", "catch", "finally", "assert", "synchronized", "System.out", "Random", "nanoTime",
             "currentTimeMillis", "package ", "float", "double", "\t"};
         for (String word : never) {
