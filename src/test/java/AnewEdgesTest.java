@@ -11,6 +11,7 @@ public final class AnewEdgesTest {
         costsTold();
         holdsRefused();
         triedChangesNothing();
+        triedTillTheEnd();
         actsAndOthers();
         the12Last();
         eachActUndone();
@@ -169,6 +170,17 @@ public final class AnewEdgesTest {
         CHECK.due("gifts as they are now", x.tried(0, 1, 3, false), 15);
         x.toll(2, 0);
         CHECK.due("costs as they are now", x.tried(1, 1, 3, false), 0);
+    }
+
+    /** The end is 111 pivots away, where run() would stop ahead of it. */
+    private static void triedTillTheEnd() {
+        CHECK.sentence("PIVOTS are made till THE END (nothing changes by it).");
+        PivotDocks x = Edges.farAway();
+        CHECK.due("tried(0, 0, 8), as it costs", x.tried(0, 0, 8, false), 22418);
+        CHECK.due("tried(1, 0, 23), as it holds", x.tried(1, 0, 23, false), 22418);
+        CHECK.due("tried(2, 0, 348), as it gives", x.tried(2, 0, 348, false), 22418);
+        CHECK.due("lacking then", x.tried(2, 0, 348, true), 0);
+        CHECK.due("no pivot", x.count(5), 0);
     }
 
     private static void dueAct(String call, PivotDocks x, long answer, boolean act, int had) {

@@ -115,4 +115,13 @@ final class Edges {
     static int turnedLoad(int k) {
         return k == 0 ? 99 : turnedWay(k) + 1;
     }
+
+    /** By blocks of one 111 pivots till the end, more than one run() makes; found by a search that changed a text bit by bit. */
+    static PivotDocks farAway() {
+        return Check.told("dock a gives348;dock b gives9;dock c takes125;dock d takes47;dock e gives83;dock f gives80;dock g gives0;dock h gives3;"
+            + "route i f e costs8holds23;route j b d costs143holds7;route k a c costs949holds54;route l f d costs999holds34;"
+            + "route m b d costs947holds5;route n d c costs27holds654;route o h d costs857holds324;route p b d costs830holds175;"
+            + "route q g d costs234holds670;route r a d costs679holds1;route s f g costs174holds10;route t f d costs323holds17;"
+            + "route u e g costs32holds12;route v f d costs148holds57;route w e d costs91holds106;route x a d costs83holds8;block1;");
+    }
 }

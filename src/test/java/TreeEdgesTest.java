@@ -47,6 +47,7 @@ public final class TreeEdgesTest {
         strongTrees();
         stepAtTheEnd();
         runs();
+        runOf99();
         runNone();
         logOthers();
         logOf16();
@@ -777,6 +778,44 @@ public final class TreeEdgesTest {
             CHECK.due("run(1) at the end", x.run(1), 0);
             CHECK.same("it is no act", View.of(x), before);
         }
+    }
+
+    /** Where two objects stand, in fewer calls than a View takes of a text as long as this. */
+    private static void dueAlike(String when, PivotDocks x, PivotDocks twin) {
+        CHECK.due("cost() " + when, x.cost(), twin.cost());
+        for (int what : new int[] {3, 4, 5, 8, 9, 10}) {
+            CHECK.due("count(" + what + ") " + when, x.count(what), twin.count(what));
+        }
+        for (int way = 0; way < 24; way++) {
+            CHECK.due("flow of way " + way + " " + when, x.way(way, 4), twin.way(way, 4));
+            CHECK.due("state of way " + way + " " + when, x.way(way, 5), twin.way(way, 5));
+        }
+    }
+
+    /** Beside a twin that steps: 99 pivots are no end by themselves, and the next run() goes on from there. */
+    private static void runOf99() {
+        CHECK.sentence("PIVOTS, n (1 to 99) at most, till THE END: how many");
+        PivotDocks x = Edges.farAway();
+        PivotDocks twin = Edges.farAway();
+        for (int k = 0; k < 99; k++) {
+            CHECK.due("step() " + k + " is a pivot", twin.step() >= 0, true);
+        }
+        CHECK.due("run(99) far from the end", x.run(99), 99);
+        CHECK.due("pivots", x.count(5), 99);
+        CHECK.due("not the end", x.count(8), 0);
+        CHECK.due("one act", x.count(6), 1);
+        dueAlike("as by steps", x, twin);
+        CHECK.due("run(99) goes on", x.run(99), 12);
+        CHECK.due("the end", x.count(8), 1);
+        CHECK.due("pivots", x.count(5), 111);
+        CHECK.due("cost()", x.cost(), 22418);
+        CHECK.due("total()", x.total(), 3532418);
+        CHECK.due("proof()", x.proof(), 3532418);
+        CHECK.same("sheet", Check.sheet(x), "i 23;j 7;n 125;v 51;w 106;x 8;");
+        CHECK.due("undo() of 12 pivots", x.undo(), 1);
+        CHECK.due("undo() of 99 pivots", x.undo(), 0);
+        dueAlike("as begun", x, Edges.farAway());
+        CHECK.due("run(98)", Edges.farAway().run(98), 98);
     }
 
     private static void runNone() {
